@@ -220,6 +220,8 @@ final class CorrectionTest {
             check.that("sweep(20) of 16 rays: the fit is better", x.fit(0) < before ? 1 : 0, 1);
             x.fill();
             x.digest();
+            x.slope(false, 1000, 0, 0);
+            check.that("smooth of 64 equal cells", x.smooth(1), 0);
         }
     }
 
