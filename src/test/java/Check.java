@@ -1,8 +1,15 @@
+import java.lang.reflect.InvocationTargetException;
+import java.lang.reflect.Method;
+import java.lang.reflect.Modifier;
 import java.util.Arrays;
+import java.util.Comparator;
 
 /** Counts answers that are due, prints those that are not, and knows some common questions. */
 final class Check {
+    static final long MOST_TIME = 100000000000L;
+
     private final String name;
+    private String part = "";
     private int right;
     private int wrong;
 
@@ -12,6 +19,38 @@ final class Check {
 
     interface Call {
         long answer();
+    }
+
+    interface NumberCall {
+        long answer(int number);
+    }
+
+    /**
+     * Runs every test of a class: each static method without arguments and answer, in the order of
+     * their names, so that none can be forgotten. A test that throws is a wrong answer.
+     */
+    void runAll(Class<?> tests) {
+        Method[] methods = tests.getDeclaredMethods();
+        Arrays.sort(methods, Comparator.comparing(Method::getName));
+        for (Method method : methods) {
+            if (Modifier.isStatic(method.getModifiers()) && !method.isSynthetic()
+                    && method.getParameterCount() == 0 && method.getReturnType() == void.class) {
+                method.setAccessible(true);
+                part = "." + method.getName();
+                runOne(method);
+            }
+        }
+        part = "";
+    }
+
+    private void runOne(Method method) {
+        try {
+            method.invoke(null);
+        } catch (InvocationTargetException e) {
+            note(false, "threw " + e.getCause() + " at " + Arrays.toString(e.getCause().getStackTrace()));
+        } catch (IllegalAccessException e) {
+            note(false, "could not be run");
+        }
     }
 
     void that(String what, long got, long due) {
@@ -28,7 +67,7 @@ final class Check {
             right++;
         } else {
             wrong++;
-            System.out.println(name + ": " + what);
+            System.out.println(name + part + ": " + what);
         }
     }
 
@@ -54,6 +93,27 @@ final class Check {
 
     void badState(SlownessImager imager, String what, Call call) {
         refuses(imager, "IllegalStateException", what, call);
+    }
+
+    /** An argument that leads to the exception is refused next to its range and far away from it. */
+    void badIndexes(SlownessImager imager, String what, int least, int most, NumberCall call) {
+        refusesAround(imager, "IndexOutOfBoundsException", what, least, most, call);
+    }
+
+    void badArguments(SlownessImager imager, String what, int least, int most, NumberCall call) {
+        refusesAround(imager, "IllegalArgumentException", what, least, most, call);
+    }
+
+    /** The last numbers would come into the range, or near it, if only their lower bits were looked at. */
+    private void refusesAround(
+            SlownessImager imager, String due, String what, int least, int most, NumberCall call) {
+        long[] numbers = {least - 1L, most + 1L, Integer.MIN_VALUE, Integer.MAX_VALUE,
+            least + 256L, least + 65536L, least - 65536L};
+        for (long number : numbers) {
+            if (number < least || number > most) {
+                refuses(imager, due, what + " of " + number, () -> call.answer((int) number));
+            }
+        }
     }
 
     /**
@@ -97,6 +157,19 @@ final class Check {
             cells[i] = imager.wayCell(ray, i);
         }
         return cells;
+    }
+
+    /** The digest without the number of saved states, which is the first of its values. */
+    static long stateHash(SlownessImager imager, int saved) {
+        int behind = 11 + 4 * imager.section(0) * imager.section(1) + 5;
+        for (int ray = 0; ray < imager.section(2); ray++) {
+            behind += 7 + imager.ray(ray, 4);
+        }
+        long weight = 1;
+        for (int i = 0; i < behind; i++) {
+            weight *= 31;
+        }
+        return imager.digest() - saved * weight;
     }
 
     static long[] list(long... values) {
